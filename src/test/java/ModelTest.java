@@ -185,9 +185,10 @@ public final class ModelTest {
             if (!places().contains(place) || !places().contains(other)) {
                 return -1;
             }
-            int k = 0;
-            while (k < rest(place).length() && rest(other).startsWith(rest(place).substring(0, k + 1))) {
-                k++;
+            String rest = rest(place);
+            int k = rest.length();
+            while (!rest(other).startsWith(rest.substring(0, k))) {
+                k--;
             }
             return k;
         }

@@ -9,8 +9,8 @@ public final class PromisesTest {
     private static void due(String call, int got, int want) {
         if (got != want) {
             wrong++;
-            System.out.println((part <= 23 ? "promise " + part : "terms") + ": " + call + " answered " + got
-                    + ", due is " + want);
+            String where = part <= 23 ? "promise " + part : "terms";
+            System.out.println(where + ": " + call + " answered " + got + ", due is " + want);
         }
     }
 
@@ -292,6 +292,9 @@ public final class PromisesTest {
         due("count() of 10", x.count(), 1);
         x.pop();
         due("count() after pop", x.count(), 0);
+        FmIndex five = with("1", "01", "", "11", "1");
+        pattern(five, "1");
+        due("count() in 5 documents", five.count(), 5);
     }
 
     private static void occurrence() {
@@ -401,6 +404,13 @@ public final class PromisesTest {
     /** The rests of manyEqual: 0 at 1, 66, 192, 257; then 010 at 64; then 10 at 0, 65, 256. */
     private static final int[] ORDER = {1, 66, 192, 257, 64, 0, 65, 256};
 
+    private static FmIndex manyAlike() {
+        return with("021", "0122");
+    }
+
+    /** The rests of manyAlike: 0122, 021, 1, 122, 2, 21, 22. */
+    private static final int[] ALIKE_ORDER = {64, 0, 2, 65, 67, 1, 66};
+
     private static void ranked() {
         FmIndex x = manyEqual();
         for (int i = 0; i < ORDER.length; i++) {
@@ -413,6 +423,10 @@ public final class PromisesTest {
         x.close();
         due("ranked(5) after close", x.ranked(5), 65);
         due("ranked(6) after close", x.ranked(6), -1);
+        FmIndex alike = manyAlike();
+        for (int i = 0; i < ALIKE_ORDER.length; i++) {
+            due("ranked(" + i + ") of rests alike", alike.ranked(i), ALIKE_ORDER[i]);
+        }
         due("ranked(0) of nothing", new FmIndex().ranked(0), -1);
         FmIndex full = with("2".repeat(60));
         due("ranked(0) of 60", full.ranked(0), 59);
@@ -436,6 +450,16 @@ public final class PromisesTest {
         due("rankOf(257) after pop", x.rankOf(257), -1);
         // What was 10 is 1 now, a beginning of the other two.
         due("rankOf(256) after pop", x.rankOf(256), 4);
+        due("rankOf(0) after pop", x.rankOf(0), 5);
+        // The symbol taken away is greater than the one it must not be compared with.
+        FmIndex popped = with("10", "14");
+        popped.pop();
+        due("rankOf(64), a beginning of 10", popped.rankOf(64), 1);
+        due("rankOf(0), 10 after 1", popped.rankOf(0), 2);
+        FmIndex alike = manyAlike();
+        for (int i = 0; i < ALIKE_ORDER.length; i++) {
+            due("rankOf(" + ALIKE_ORDER[i] + ") of rests alike", alike.rankOf(ALIKE_ORDER[i]), i);
+        }
     }
 
     private static void common() {
