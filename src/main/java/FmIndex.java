@@ -42,7 +42,7 @@ public final class FmIndex {
         if (!isDocument(d)) {
             return REFUSED;
         }
-        // Java's division rounds a negative spec towards 0, which would make a good p of it.
+        // Java's division rounds towards 0: not every negative spec would give a negative p.
         if (spec < 0) {
             return REFUSED_SECOND;
         }
