@@ -360,9 +360,26 @@ public final class ModelTest {
         }
     }
 
+    /** What a call after the 512th answers is free, but none may throw: rule 7 of LANGUAGE.md. */
+    private static void laterCalls(int number) {
+        Draw draw = new Draw(number);
+        FmIndex x = new FmIndex();
+        Model model = new Model();
+        for (int call = 1; call <= 20 * CALLS; call++) {
+            String method = draw.method();
+            int a = draw.first(method, model);
+            int b = draw.second(method, a, model);
+            model.answer(method, a, b);
+            answer(x, method, a, b);
+        }
+    }
+
     public static void main(String[] args) {
         for (int number = 0; number < RUNS && wrong < 10; number++) {
             run(number);
+        }
+        for (int number = 0; number < 5; number++) {
+            laterCalls(number);
         }
         System.out.println(wrong == 0 ? "all answers are as due" : wrong + " runs are not as due");
         if (wrong != 0) {

@@ -9,7 +9,7 @@ public final class PromisesTest {
     private static void due(String call, int got, int want) {
         if (got != want) {
             wrong++;
-            String where = part <= 23 ? "promise " + part : "terms";
+            String where = part <= 23 ? "promise " + part : part == 24 ? "terms" : "README.md";
             System.out.println(where + ": " + call + " answered " + got + ", due is " + want);
         }
     }
@@ -98,6 +98,10 @@ public final class PromisesTest {
         due("the 60th symbol of one document", one.push(4), 60);
         due("the 61st", one.push(4), -2);
         dueDocuments("one full document", one, "3".repeat(59) + "4");
+        pattern(one, "34");
+        one.pop();
+        one.push(4);
+        due("the pattern stays: count()", one.count(), 1);
     }
 
     private static void paste() {
@@ -144,6 +148,12 @@ public final class PromisesTest {
         due("paste(0, 2) over 60", half.paste(0, 2), -3);
         due("paste(0, 1) to 60", half.paste(0, 1), 60);
         dueDocuments("full again", half, "01234".repeat(11) + "01230");
+
+        FmIndex two = with("01234".repeat(6), "1");
+        pattern(two, "10");
+        due("paste(0, 30) over 60 in all", two.paste(0, 30), -3);
+        due("paste(0, 29) to 60 in all", two.paste(0, 29), 60);
+        due("the pattern stays: count()", two.count(), 1);
     }
 
     private static void open() {
@@ -158,6 +168,10 @@ public final class PromisesTest {
         due("open() after close", x.open(), 5);
         dueDocuments("a new one is empty", x, "", "", "", "", "");
         due("open() in a full object", with("1".repeat(60)).open(), 2);
+        FmIndex asked = with("12");
+        pattern(asked, "12");
+        asked.open();
+        due("the pattern stays: count()", asked.count(), 1);
     }
 
     private static void pop() {
@@ -166,12 +180,14 @@ public final class PromisesTest {
         due("pop()", x.pop(), 0);
         due("pop() of the empty last document", x.pop(), -1);
         dueDocuments("after pops", x, "34", "");
+        pattern(x, "34");
         due("push(2) counts what is left", x.push(2), 3);
         x.close();
         due("pop() of the first document", x.pop(), 4);
         due("pop()", x.pop(), 3);
         due("pop() of nothing", x.pop(), -1);
         dueDocuments("empty", x, "");
+        due("the pattern stays: forget()", x.forget(), 2);
     }
 
     private static void close() {
@@ -292,6 +308,9 @@ public final class PromisesTest {
         due("count() of 10", x.count(), 1);
         x.pop();
         due("count() after pop", x.count(), 0);
+        FmIndex eight = with("0123401", "01234013");
+        pattern(eight, "01234012");
+        due("count() of 8, the last of them another", eight.count(), 0);
         FmIndex five = with("1", "01", "", "11", "1");
         pattern(five, "1");
         due("count() in 5 documents", five.count(), 5);
@@ -411,6 +430,15 @@ public final class PromisesTest {
     /** The rests of manyAlike: 0122, 021, 1, 122, 2, 21, 22. */
     private static final int[] ALIKE_ORDER = {64, 0, 2, 65, 67, 1, 66};
 
+    private static FmIndex longAlike() {
+        return with("2".repeat(29) + "3", "2".repeat(29) + "1");
+    }
+
+    /** Of the rests of longAlike 1, 21, 221, .. come first, then .., 2223, 223, 23, 3. */
+    private static int longAlikeAt(int i) {
+        return i < 30 ? 64 + 29 - i : i - 30;
+    }
+
     private static void ranked() {
         FmIndex x = manyEqual();
         for (int i = 0; i < ORDER.length; i++) {
@@ -426,6 +454,10 @@ public final class PromisesTest {
         FmIndex alike = manyAlike();
         for (int i = 0; i < ALIKE_ORDER.length; i++) {
             due("ranked(" + i + ") of rests alike", alike.ranked(i), ALIKE_ORDER[i]);
+        }
+        FmIndex longer = longAlike();
+        for (int i = 0; i < 60; i++) {
+            due("ranked(" + i + ") of long rests alike", longer.ranked(i), longAlikeAt(i));
         }
         due("ranked(0) of nothing", new FmIndex().ranked(0), -1);
         FmIndex full = with("2".repeat(60));
@@ -460,6 +492,11 @@ public final class PromisesTest {
         for (int i = 0; i < ALIKE_ORDER.length; i++) {
             due("rankOf(" + ALIKE_ORDER[i] + ") of rests alike", alike.rankOf(ALIKE_ORDER[i]), i);
         }
+        FmIndex longer = longAlike();
+        for (int i = 0; i < 60; i++) {
+            int place = longAlikeAt(i);
+            due("rankOf(" + place + ") of long rests alike", longer.rankOf(place), i);
+        }
     }
 
     private static void common() {
@@ -484,6 +521,10 @@ public final class PromisesTest {
         FmIndex full = with("2".repeat(60));
         due("common(0, 1) of 60", full.common(0, 1), 59);
         due("common(0, 0) of 60", full.common(0, 0), 60);
+        FmIndex longer = longAlike();
+        for (int p = 0; p < 30; p++) {
+            due("common(" + p + ", 64) of long rests alike", longer.common(p, 64), 29 - p);
+        }
     }
 
     private static void repeated() {
@@ -496,6 +537,7 @@ public final class PromisesTest {
         due("repeated() of equal documents", with("01234", "", "01234").repeated(), 5);
         due("repeated() not over a document's end", with("0", "1", "01").repeated(), 1);
         due("repeated() of 60", with("2".repeat(60)).repeated(), 59);
+        due("repeated() of long rests alike", longAlike().repeated(), 29);
         FmIndex x = with("01", "01");
         x.close();
         due("repeated() after close", x.repeated(), 0);
@@ -511,6 +553,8 @@ public final class PromisesTest {
         due("different() not over a document's end", with("0", "1").different(), 2);
         due("different() of 01 and 12: 0 1 2 01 12", with("01", "12").different(), 5);
         due("different() of 60", with("2".repeat(60)).different(), 60);
+        // 29 rows of 2 alone, 30 that end in 3, 30 that end in 1.
+        due("different() of long rests alike", longAlike().different(), 89);
         FmIndex x = with("0", "12");
         x.pop();
         due("different() after pop", x.different(), 2);
@@ -563,6 +607,26 @@ public final class PromisesTest {
         due("forget()", x.forget(), 2);
     }
 
+    /** The calls of README.md's example, with the answers it tells. */
+    private static void readme() {
+        FmIndex x = new FmIndex();
+        due("push(0)", x.push(0), 1);
+        due("push(1)", x.push(1), 2);
+        due("paste(0, 64 * 0 + 2)", x.paste(0, 64 * 0 + 2), 4);
+        due("open()", x.open(), 2);
+        due("push(1)", x.push(1), 5);
+        due("ask(0)", x.ask(0), 1);
+        due("ask(1)", x.ask(1), 2);
+        due("count()", x.count(), 2);
+        due("occurrence(1)", x.occurrence(1), 2);
+        due("occurrence(2)", x.occurrence(2), -2);
+        due("spread()", x.spread(), 1);
+        due("ranked(0)", x.ranked(0), 2);
+        due("symbolAt(64)", x.symbolAt(64), 1);
+        due("symbolAt(65)", x.symbolAt(65), -1);
+        dueDocuments("README.md", x, "0101", "1");
+    }
+
     public static void main(String[] args) {
         Runnable[] parts = {
             PromisesTest::newObject, PromisesTest::push, PromisesTest::paste,
@@ -573,6 +637,7 @@ public final class PromisesTest {
             PromisesTest::longestEnd, PromisesTest::longestBegin, PromisesTest::ranked,
             PromisesTest::rankOf, PromisesTest::common, PromisesTest::repeated,
             PromisesTest::different, PromisesTest::extensions, PromisesTest::questions,
+            PromisesTest::readme,
         };
         for (Runnable check : parts) {
             part++;
